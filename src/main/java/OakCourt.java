@@ -39,7 +39,7 @@ public final class OakCourt {
     private static final int PLACES = 4;
 
     private static final int BOUGH = 0, GREEN = 1, DRY = 2, OLD = 3, PROPPED = 4, KINGS = 5;
-    private static final int BYTES = 0, SHORTS = 1, INTS = 2, LONGS = 3, BOOLEANS = 4, MISSING = -1;
+    private static final int BYTES = 0, SHORTS = 1, BOOLEANS = 4, MISSING = -1;
 
     /** Words of the rules' text; one that is 0 or more is a number. Facts and joints are also
      *  steps of a condition's code, and of NOT, AND, OR, OPEN the greater binds tighter. */
@@ -56,7 +56,7 @@ public final class OakCourt {
     private boolean isKept;
     private final Tape tape = new Tape();
     private final RuleReader reader = new RuleReader();
-    private final Seating seating = new Seating(tried);
+    private final Seating seating = new Seating();
     private final Rows rows = new Rows();
     private final Host host = new Host();
     private final Acts acts = new Acts();
@@ -291,15 +291,13 @@ public final class OakCourt {
 
     public int seat(int set, int i) {
         if (!isSeatable(set) || !isWithin(i, 0, MAX_SEATED - 1)) return BAD;
-        tried.copyFrom(now);
-        if (!seating.finds(set) || i >= seating.count) return NONE;
+        if (!seating.finds(now, set) || i >= seating.count) return NONE;
         return seating.seats[i];
     }
 
     public int seatAll(int set) {
         if (!isSeatable(set)) return BAD;
-        tried.copyFrom(now);
-        if (!seating.finds(set)) return NONE;
+        if (!seating.finds(now, set)) return NONE;
         for (int i = 0; i < seating.count; i++) {
             now.people.seats[seating.members[i]] = seating.seats[i];
         }
@@ -308,14 +306,12 @@ public final class OakCourt {
 
     public int game(int side, int n) {
         if (!isSide(side) || !isWithin(n, 1, MAX_MOVES)) return BAD;
-        tried.copyFrom(now);
-        return seating.gameValue(side, n);
+        return seating.gameValue(now, side, n);
     }
 
     public int move(int side, int n) {
         if (!isSide(side) || !isWithin(n, 1, MAX_MOVES)) return BAD;
-        tried.copyFrom(now);
-        return seating.firstMove(side, n);
+        return seating.firstMove(now, side, n);
     }
 
     private boolean isSeatable(int set) {
@@ -727,7 +723,6 @@ public final class OakCourt {
             if (word != MORE && word != LESS && word != CUT) return false;
             settle(OR);
             told.deeds[told.count] = word;
-            told.amounts[told.count] = 0;
             due = word == CUT ? AT_END : AT_AMOUNT;
             return true;
         }
@@ -774,7 +769,6 @@ public final class OakCourt {
             if (!isValue(word)) return false;
             step(word);
             step(sign);
-            settle(NOT);
             due = BEHIND_ONE;
             return true;
         }
@@ -790,7 +784,6 @@ public final class OakCourt {
             settle(OR);
             waits = Math.max(0, waits - 1);
             open--;
-            settle(NOT);
             return true;
         }
 
@@ -1141,18 +1134,15 @@ public final class OakCourt {
         }
     }
 
-    /** SEATING and the GAME, on an oak that is there to be tried on. */
+    /** SEATING and the GAME, each on a copy of the oak. */
     private static final class Seating {
         int count;
         final int[] members = new int[MAX_SEATED];
         final int[] seats = new int[MAX_SEATED];
-        private final Oak oak;
+        private final Oak oak = new Oak();
 
-        Seating(Oak oak) {
-            this.oak = oak;
-        }
-
-        boolean finds(int set) {
+        boolean finds(Oak now, int set) {
+            oak.copyFrom(now);
             count = 0;
             for (int p = 0; p < oak.people.count; p++) {
                 if (!isIn(set, p) || count >= MAX_SEATED) continue;
@@ -1178,13 +1168,14 @@ public final class OakCourt {
             return false;
         }
 
-        int gameValue(int side, int moves) {
+        int gameValue(Oak now, int side, int moves) {
+            oak.copyFrom(now);
             oak.measure();
             return valueOf(side, moves);
         }
 
-        int firstMove(int side, int moves) {
-            int value = gameValue(side, moves);
+        int firstMove(Oak now, int side, int moves) {
+            int value = gameValue(now, side, moves);
             int p = oak.people.firstUnseated(side);
             if (p == NOWHERE) return NONE;
             for (int b = 0; b < oak.boughs.count; b++) {

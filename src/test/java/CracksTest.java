@@ -89,8 +89,22 @@ public final class CracksTest {
         z.person(200, 0);
         z.sit(0, 3);
         z.sit(1, 2);
+        OakCourt nine = nine();
+        for (int b = 0; b < 9; b++) nine.change(b, 2, 9);
+        nine.weather(1, 9);
+        for (int p = 0; p < 8; p++) nine.person(1, 0);
+        for (int p = 0; p < 8; p++) nine.sit(p, p);
+        Due.is("13 all nine", nine.cracks(), 511);
+        Due.is("15 all nine, one by one", nine.fall(), 8);
+        Due.is("3 the last", nine.boughOf(8, 6), 2);
         Due.is("15 parts of the oak", z.fall(), 2);
         Due.is("3 state", z.boughOf(0, 6) * 1000 + z.boughOf(1, 6) * 100 + z.boughOf(2, 6) * 10 + z.boughOf(3, 6), 22);
+    }
+
+    private static OakCourt nine() {
+        OakCourt x = new OakCourt();
+        for (int b = 0; b < 9; b++) x.bough(1, -1, 1, 10 + b);
+        return x;
     }
 
     private static void standing() {
@@ -112,6 +126,21 @@ public final class CracksTest {
         Due.is("17 after a FALL", x.standing(1), 40);
         Due.is("18 1", x.verdict(), 1);
         Due.same("standing", was, Due.state(x));
+        x.down(2);
+        x.change(3, 3, 200);
+        x.person(51, 1);
+        x.sit(4, 3);
+        Due.is("18 1 by one", x.verdict(), 1);
+        x.person(2, 0);
+        x.sit(5, 0);
+        Due.is("18 0 by one", x.verdict(), 0);
+        x.person(1, 1);
+        x.sit(6, 0);
+        Due.is("18 as much", x.verdict(), 2);
+        Due.is("17 as much", x.standing(0), 92);
+        x.person(8, 1);
+        x.sit(7, 1);
+        Due.is("17 the eighth", x.standing(1), 100);
         for (int v : Due.OUTSIDE_INTS) Due.is("17 BAD", x.standing(v), Due.BAD);
         Due.is("17 BAD", x.standing(-1), Due.BAD);
         Due.is("17 BAD", x.standing(2), Due.BAD);
@@ -175,7 +204,7 @@ public final class CracksTest {
     private static void safe() {
         OakCourt x = Due.tower();
         x.person(100, 0);
-        x.person(150, 0);
+        x.person(151, 0);
         x.person(101, 0);
         Due.is("21 up to 2", x.safe(0), 7);
         Due.is("21 up to 1", x.safe(1), 3);
@@ -218,6 +247,22 @@ public final class CracksTest {
         Due.is("22 of several the least", x.prop(), 2);
         x.fall();
         Due.is("22 BROKEN is not mended", x.prop(), Due.NONE);
+        OakCourt y = Due.tower();
+        y.person(200, 1);
+        y.person(1, 0);
+        y.sit(0, 1);
+        y.sit(1, 0);
+        Due.is("22 all stand", y.prop(), Due.NONE);
+        y.change(0, 3, 155);
+        Due.is("22 0", y.prop(), 0);
+        y.sit(1, 3);
+        Due.is("22 0, though some stand", y.prop(), 0);
+        y.sit(0, 2);
+        Due.is("22 two would have to be mended", y.prop(), Due.NONE);
+        OakCourt nine = nine();
+        nine.person(60, 0);
+        nine.sit(0, 8);
+        Due.is("22 the ninth", nine.prop(), 8);
         kindsByRules();
     }
 

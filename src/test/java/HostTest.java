@@ -31,6 +31,9 @@ public final class HostTest {
         x.write(1, 1, 5);
         Due.is("40 anew", x.sheet(1, 2, 3), 1);
         Due.is("42 all 0", x.item(1, 2, 1), 0);
+        x.write(1, 0, 5);
+        x.sheet(1, 2, 3);
+        Due.is("42 all 0", x.item(1, 2, 0), 0);
         x.write(1, 1, 5);
         int[][] bad = {{-1, 0, 1}, {4, 0, 1}, {1, -2, 1}, {1, 5, 1}, {1, 0, 41}, {4, 0, -1}, {1, 5, -1}};
         for (int[] c : bad) Due.is("40 BAD", x.sheet(c[0], c[1], c[2]), Due.BAD);
@@ -275,6 +278,8 @@ public final class HostTest {
         acts(x, 4, 3, 5, -18 ^ 4, 13, 60, 11, 10);
         x.change(3, 2, 3);
         acts(x, 3, 2, 5, -15, 40, 12);
+        x.change(2, 2, 3);
+        acts(x, 2, 3, 5, (((5 + 2) ^ 2) * 2 - 3 ^ 3) + 2, 51, 13, 30, 11, 50, 10, 12);
         x.change(2, 2, 2);
         acts(x, 2, 2, 5, -15, 12);
         acts(x, 2, 3, 5, -15, 51, 13, 30, 11, 50, 10, 12);

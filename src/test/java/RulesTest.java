@@ -188,6 +188,12 @@ public final class RulesTest {
         Due.fault(x, "dry cu", 4);
         Due.fault(x, "dry cuts;", 4);
         Due.fault(x, "dry cut;gree", 8);
+        Due.fault(x, "dry cutz;", 4);
+        Due.fault(x, "dry cuta;", 4);
+        Due.fault(x, "dry cut`;", 7);
+        Due.fault(x, "dry cut{;", 7);
+        Due.fault(x, "dry more 5/;", 10);
+        Due.fault(x, "dry more 5:;", 10);
         Due.fault(x, "dry more -5;", 9);
         Due.fault(x, "dry more 99999;", 9);
         Due.fault(x, "dry more 9999;", 9);
@@ -287,6 +293,9 @@ public final class RulesTest {
         Due.is("many", x.many(1), 2);
         Due.rules(x, "green cut;", 1);
         holds("in place of all", x, 0, 50, 48, 150, 300);
+        Due.fault(x, "dry if not not (not", 19);
+        Due.rules(x, "dry if 1=2 cut;", 1);
+        holds("nothing is left of a faulty text", x, 100, 50, 48, 150, 300);
         Due.rules(x, "", 0);
         holds("none", x, 100, 50, 48, 150, 300);
     }

@@ -55,6 +55,9 @@ public final class SeatingTest {
         seats("three", x, 2 | 4 | 8, 7, 8, 6);
         x.change(0, 3, 36);
         seats("four", x, 15, 0, 7, 8, 6);
+        Due.is("26 four", x.seatAll(15), 4);
+        for (int p = 0; p < 4; p++) Due.is("10 sits", x.personOf(p, 2), new int[] {0, 7, 8, 6}[p]);
+        for (int p = 0; p < 4; p++) x.down(p);
         for (int b = 0; b < 9; b++) x.change(b, 3, 32);
         seats("none", x, 15);
         seats("the lightest", x, 8, 0);
@@ -79,6 +82,10 @@ public final class SeatingTest {
         OakCourt y = Due.tower();
         for (int p = 0; p < 8; p++) y.person(1, 0);
         Due.is("25 the last four", y.seat(0xf0, 3), 0);
+        for (int p = 0; p < 8; p++) y.sit(p, 0);
+        value(y, 0, 4, 2, Due.NONE);
+        y.down(7);
+        value(y, 0, 4, 2, 0);
         Due.is("25 no ninth", y.seat(0x1f0 & ~16, 0), Due.BAD);
     }
 

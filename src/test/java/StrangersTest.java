@@ -113,6 +113,14 @@ public final class StrangersTest {
         y.report(1, 0);
         y.report(0, 1);
         Due.is("32 the last", y.liar(), 3);
+        OakCourt one = Due.tower();
+        one.change(3, 3, 99);
+        one.report(2, 0);
+        one.report(3, 1);
+        Due.is("31 100 alone", one.span(1) * 1000 + one.span(2), 100100);
+        Due.is("32 one FITS", one.liar(), Due.NONE);
+        one.report(1, 1);
+        Due.is("32 but for 2 one would", one.liar(), 2);
     }
 
     private static void draws() {
