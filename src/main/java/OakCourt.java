@@ -428,20 +428,18 @@ public final class OakCourt {
 
     public int item(int sheet, int sort, int i) {
         if (!isPlace(sheet) || !isWithin(sort, BYTES, BOOLEANS)) return BAD;
-        if (host.sorts[sheet] == MISSING) return NOTHING_THERE;
-        if (host.sorts[sheet] != sort) return OTHER_SORT;
+        int refusal = host.refusalOf(sheet, sort);
+        if (refusal != 0) return refusal;
         if (!host.hasItem(sheet, i)) return PLACE_OUTSIDE;
         return (int) host.items[sheet][i];
     }
 
     public int climbs(int p, int sheet, int i, int n) {
         if (!now.people.isThere(p) || !isPlace(sheet) || !isWithin(n, 0, MAX_CLIMBS)) return BAD;
-        boolean missing = host.sorts[sheet] == MISSING;
-        if (!missing && host.sorts[sheet] != BYTES) return OTHER_SORT;
+        int refusal = host.refusalOf(sheet, BYTES);
+        if (refusal != 0) return refusal;
         int times = 0;
         for (int k = 0; k < n; k++) {
-            // A missing row is met only where an item is asked of it: no items, no refusal.
-            if (missing) return NOTHING_THERE;
             if (!host.hasItem(sheet, i + k)) return PLACE_OUTSIDE;
             int b = (int) host.items[sheet][i + k];
             if (now.boughs.isWhole(b)) {
@@ -1267,6 +1265,12 @@ public final class OakCourt {
             sorts[sheet] = sort;
             sizes[sheet] = n;
             for (int i = 0; i < MAX_ITEMS; i++) items[sheet][i] = 0;
+        }
+
+        /** Of a sheet taken for a sort, whatever is asked of it then; 0 if it is of that sort. */
+        int refusalOf(int sheet, int sort) {
+            if (sorts[sheet] == MISSING) return NOTHING_THERE;
+            return sorts[sheet] == sort ? 0 : OTHER_SORT;
         }
 
         boolean hasItem(int sheet, int i) {

@@ -140,7 +140,16 @@ public final class HostTest {
         Due.is("43 -12", x.climbs(0, 2, -1, 2), -12);
         Due.is("43 -11", x.climbs(0, 0, 0, 1), -11);
         Due.is("43 -11 ahead of -12", x.climbs(0, 0, -1, 1), -11);
-        Due.is("43 nothing is asked of it", x.climbs(0, 0, 0, 0), 0);
+        for (int s : new int[] {0, 1, 3}) {
+            Due.is("43 -11 of no items", x.climbs(0, s, 0, 0), -11);
+            Due.is("43 -11 of no items from outside", x.climbs(0, s, -1, 0), -11);
+        }
+        Due.is("43 BAD ahead of -11", x.climbs(1, 0, 0, 0), Due.BAD);
+        x.sheet(3, 0, 0);
+        Due.is("43 no items of none", x.climbs(0, 3, 0, 0), 0);
+        Due.is("43 one of none", x.climbs(0, 3, 0, 1), -12);
+        x.sheet(3, -1, 0);
+        Due.is("43 missing again", x.climbs(0, 3, 0, 0), -11);
         for (int sort = 1; sort < 5; sort++) {
             x.sheet(1, sort, 1);
             Due.is("43 -13", x.climbs(0, 1, 0, 1), -13);

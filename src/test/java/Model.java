@@ -838,6 +838,7 @@ final class Model {
         if (!oak.person(p) || sheet < 0 || sheet > 3 || n < 0 || n > 20) return BAD;
         try {
             byte[] s = (byte[]) sheets[sheet];
+            if (s == null) return -11;
             int times = 0;
             for (int k = 0; k < n; k++) {
                 int was = sit(p, s[i + k]);
@@ -846,8 +847,6 @@ final class Model {
             return times;
         } catch (ClassCastException e) {
             return -13;
-        } catch (NullPointerException e) {
-            return -11;
         } catch (ArrayIndexOutOfBoundsException e) {
             return -12;
         }
