@@ -20,14 +20,21 @@ final class Due {
         if (wrong != 0) System.exit(1);
     }
 
-    /** What rules() answers to a text that is all the tape. */
-    static int told(OakCourt x, String text) {
+    /** Puts a text on THE TAPE: what the last feed() answers. */
+    static int feed(OakCourt x, String text) {
+        int has = 0;
         for (int i = 0; i < text.length(); i += 8) {
             int n = Math.min(8, text.length() - i);
             long eight = 0;
             for (int k = 0; k < n; k++) eight |= (text.charAt(i + k) & 255L) << 8 * k;
-            is("feed of " + text, x.feed(eight, n), i + n);
+            has = x.feed(eight, n);
         }
+        return has;
+    }
+
+    /** What rules() answers to a text that is all the tape. */
+    static int told(OakCourt x, String text) {
+        is("feed of " + text, feed(x, text), text.length());
         return x.rules();
     }
 
