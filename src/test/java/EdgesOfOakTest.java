@@ -67,7 +67,7 @@ public final class EdgesOfOakTest {
         Edges.leaves("no such thing", x -> x.down(5), -1);
         Edges.leaves("a number not as told", x -> x.weather(0, 10), -1);
         Edges.leaves("full", Edges::full, x -> x.report(0, 0), -2);
-        Edges.leaves("none", x -> x.move(0, 1) + x.trace(4), 0 - 3);
+        Edges.leaves("none", x -> x.trace(4), -3);
         Edges.leaves("broken", x -> x.sit(0, 2), -4);
         Edges.says("-11 nothing where something is asked, -12 a place outside, -13 a thing of another sort or kind,"
             + " -14 a size below 0, -15 parted by 0.");
